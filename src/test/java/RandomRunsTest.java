@@ -45,12 +45,18 @@ public final class RandomRunsTest {
         return random.nextInt(often) == 0;
     }
 
+    /** A number of 0 up to below most; now and then one that is not. */
     private int from(int most) {
-        return seldom(40) ? (seldom(2) ? -1 - random.nextInt(3) : most + random.nextInt(3)) : random.nextInt(most);
+        return seldom(40) ? beside(most) : random.nextInt(most);
     }
 
     private int what(int most) {
-        return seldom(30) ? (seldom(2) ? -1 : most + 1) : random.nextInt(most + 1);
+        return seldom(30) ? beside(most + 1) : random.nextInt(most + 1);
+    }
+
+    private int beside(int most) {
+        int[] wrong = {-1, most, most + 1, most + 255, Integer.MIN_VALUE, Integer.MAX_VALUE};
+        return wrong[random.nextInt(wrong.length)];
     }
 
     private void is(String call, long answer, long asked) {
@@ -128,7 +134,7 @@ public final class RandomRunsTest {
     }
 
     private void sight() {
-        int k = seldom(10) ? -1 : random.nextInt(10);
+        int k = seldom(10) ? beside(10) : random.nextInt(10);
         is("sight(" + k + ")", got.sight(k), want.sight(k));
     }
 
