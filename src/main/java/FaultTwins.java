@@ -25,8 +25,8 @@ public final class FaultTwins {
     private final History history = new History();
     private final View view = new View();
     private final Sets sets = new Sets();
-    private final Twins twins = new Twins(now.machine);
-    private final Twins trial = new Twins(now.machine);
+    private final Twins twins = new Twins();
+    private final Twins trial = new Twins();
     private final Text text = new Text();
     private final Reader reader = new Reader();
     private int bads;
@@ -249,7 +249,7 @@ public final class FaultTwins {
         if ((found.pairs[mark] >> place & 1) == 0) {
             return 0;
         }
-        return mark >= PLACES && found.isOfRing(mark - PLACES, place) ? 2 : 1;
+        return mark >= PLACES && found.isOfRing(now.machine, mark - PLACES, place) ? 2 : 1;
     }
 
     // ---- texts
@@ -415,14 +415,14 @@ public final class FaultTwins {
 
     private Twins foundTwins() {
         if (!twinsHold) {
-            twins.find(now.machine.seen);
+            twins.find(now.machine, now.machine.seen);
             twinsHold = true;
         }
         return twins;
     }
 
     private boolean areEnough(int eyes) {
-        trial.find(now.machine.seen | eyes);
+        trial.find(now.machine, now.machine.seen | eyes);
         return trial.delay != NONE;
     }
 
@@ -749,7 +749,6 @@ public final class FaultTwins {
 
     /** TWINS of a machine, if just these DEEDS are SEEN. Sets of PLACES of the second one are bits. */
     private static final class Twins {
-        private final Machine machine;
         private int seen;
         /** Of each PLACE of the second one: itself and all to which it comes alone. */
         private final int[] alone = new int[PLACES];
@@ -763,33 +762,29 @@ public final class FaultTwins {
         private final int[] ahead = new int[PLACES];
         private final int[] gone = new int[PLACES];
 
-        Twins(Machine machine) {
-            this.machine = machine;
-        }
-
-        void find(int deedsSeen) {
+        void find(Machine machine, int deedsSeen) {
             seen = deedsSeen;
-            findAlone();
-            findAlong();
-            findPairs();
-            delay = findDelay();
+            findAlone(machine);
+            findAlong(machine);
+            findPairs(machine);
+            delay = findDelay(machine);
         }
 
         private boolean isSeen(int d) {
             return (seen >> d & 1) == 1;
         }
 
-        private void findAlone() {
+        private void findAlone(Machine machine) {
             for (int place = 0; place < PLACES; place++) {
                 alone[place] = 1 << place;
             }
             boolean grew = true;
             for (int round = 0; round < PLACES && grew; round++) {
-                grew = growAlone();
+                grew = growAlone(machine);
             }
         }
 
-        private boolean growAlone() {
+        private boolean growAlone(Machine machine) {
             boolean grew = false;
             for (int w = 0; w < machine.ways; w++) {
                 int d = machine.by[w];
@@ -803,7 +798,7 @@ public final class FaultTwins {
             return grew;
         }
 
-        private void findAlong() {
+        private void findAlong(Machine machine) {
             Arrays.fill(along, 0);
             for (int w = 0; w < machine.ways; w++) {
                 int d = machine.by[w];
@@ -827,16 +822,16 @@ public final class FaultTwins {
             return sum;
         }
 
-        private void findPairs() {
+        private void findPairs(Machine machine) {
             Arrays.fill(pairs, 0);
             pairs[0] = alone[0];
             boolean grew = true;
             for (int round = 0; round < MARKS * PLACES && grew; round++) {
-                grew = growPairs();
+                grew = growPairs(machine);
             }
         }
 
-        private boolean growPairs() {
+        private boolean growPairs(Machine machine) {
             boolean grew = false;
             for (int w = 0; w < machine.ways; w++) {
                 for (int mark = machine.from[w]; mark < MARKS; mark += PLACES) {
@@ -853,11 +848,11 @@ public final class FaultTwins {
          * Takes the DOUBTFUL pairs that are behind one WAY of the MARK, then behind two, and so on.
          * Each time they are some of those before: are they as many, they are the same for ever.
          */
-        private int findDelay() {
+        private int findDelay(Machine machine) {
             System.arraycopy(pairs, PLACES, here, 0, PLACES);
             int left = countOf(here, 0);
             for (int ways = 0; ways <= PLACES * PLACES; ways++) {
-                goOn(here, ahead);
+                goOn(machine, here, ahead);
                 int rest = countOf(ahead, 0);
                 if (rest == 0) {
                     return ways;
@@ -872,7 +867,7 @@ public final class FaultTwins {
         }
 
         /** One WAY of the MARK, from all these DOUBTFUL pairs (by the PLACE of the MARK). */
-        private void goOn(int[] start, int[] end) {
+        private void goOn(Machine machine, int[] start, int[] end) {
             Arrays.fill(end, 0);
             for (int w = 0; w < machine.ways; w++) {
                 end[machine.to[w]] |= partners(machine.by[w], start[machine.from[w]]);
@@ -880,13 +875,13 @@ public final class FaultTwins {
         }
 
         /** Whether a DOUBTFUL pair comes to itself with a WAY of the MARK. */
-        boolean isOfRing(int place, int other) {
+        boolean isOfRing(Machine machine, int place, int other) {
             Arrays.fill(here, 0);
             here[place] = alone[other];
-            goOn(here, gone);
+            goOn(machine, here, gone);
             boolean grew = true;
             for (int round = 0; round < PLACES * PLACES && grew; round++) {
-                goOn(gone, ahead);
+                goOn(machine, gone, ahead);
                 grew = addAheadToGone();
             }
             return (gone[place] >> other & 1) == 1;

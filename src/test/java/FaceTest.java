@@ -77,9 +77,32 @@ public final class FaceTest {
         DUE.is("the class", FaultTwins.class.getModifiers(), Modifier.PUBLIC | Modifier.FINAL);
         Class<?>[] inside = FaultTwins.class.getDeclaredClasses();
         DUE.holds("at most twelve classes", inside.length < 12);
+        size(FaultTwins.class);
         for (Class<?> one : inside) {
             DUE.holds(one + " is static", Modifier.isStatic(one.getModifiers()));
             DUE.holds(one + " is not public", !Modifier.isPublic(one.getModifiers()));
+            DUE.is(one + " has classes inside", one.getDeclaredClasses().length, 0);
+            size(one);
+        }
+    }
+
+    /** Rules 1, 3, 5 and 11: names, types, static fields, how many fields and parameters. */
+    private static void size(Class<?> one) {
+        int fields = 0;
+        for (Field field : one.getDeclaredFields()) {
+            boolean isStatic = Modifier.isStatic(field.getModifiers());
+            fields += isStatic ? 0 : 1;
+            DUE.holds(field + " static is a final int", !isStatic
+                || Modifier.isFinal(field.getModifiers()) && field.getType() == int.class);
+            Class<?> type = field.getType().isArray() ? field.getType().getComponentType() : field.getType();
+            boolean own = type.isPrimitive() || type.getEnclosingClass() == FaultTwins.class;
+            DUE.holds(field + " is of a type that may be", own);
+        }
+        DUE.holds(one + " has at most twenty fields", fields <= 20);
+        for (Method method : one.getDeclaredMethods()) {
+            DUE.holds(method + " has at most seven parameters", method.getParameterCount() <= 7);
+            boolean face = FACE.stream().anyMatch(line -> line.contains(" " + method.getName() + "("));
+            DUE.holds(method + " bears no public one's name", one == FaultTwins.class || !face);
         }
     }
 

@@ -26,6 +26,7 @@ public final class TermsTest {
         rings();
         delays();
         longDelayAndLongRing();
+        twinsOfAnotherMachine();
         eyesAtTheEdges();
         fewestOfLikeOnes();
         drawsAtTheEdges();
@@ -72,6 +73,9 @@ public final class TermsTest {
             x.way(0, 0, 0);
             DUE.is("sees(g)", x.sees(G), 1);
             DUE.is("KNOWN", x.known(0), 1 << place + 10);
+            DUE.is("a sight from this MARK alone", x.would(0), 1);
+            DUE.is("sees(a)", x.sees(0), 1);
+            DUE.is("KNOWN behind a", x.known(0), 1 << place + 10);
             DUE.is("all(0)", x.all(0), place == 0 ? 1 | 1 << 10 : 1 | 1 << place + 10);
             x.deed(G, 0, 0);
             DUE.is("not SEEN: KNOWN", x.known(0), 1 | 1 << place + 10);
@@ -182,6 +186,19 @@ public final class TermsTest {
         x = Due.machine("!g;?d;0g9;9d9;");
         x.sees(G);
         DUE.is("at MARK 19", x.known(4), 1);
+        // WAYS that are gone, and as many as may be, none of them unseen.
+        x = Due.machine("?d;0a0;0d1;");
+        DUE.is("by the last WAY", x.known(4), 1);
+        x.drop(1);
+        DUE.is("the last WAY is gone", x.known(4), 0);
+        DUE.is("it is not KNOWN", x.known(0), 1);
+        x = new FaultTwins();
+        for (int w = 0; w < 24; w++) {
+            x.way(w % 3, w / 3, 0);
+        }
+        DUE.is("24 WAYS, all SEEN", x.known(4), 0);
+        x.deed(7, 0, 0);
+        DUE.is("the last ones not SEEN", x.known(4), 1);
     }
 
     private static void sets(String more, int sets, int maybe, int sure) {
@@ -382,6 +399,8 @@ public final class TermsTest {
         delay("!g;?gd;0g1;0d2;2a3;3d4;4a5;1a6;6a7;", 2);
         // From a pair that can be only behind sights.
         delay("!g;?g;0a5;5g6;6a7;7a8;5a5;", 2);
+        // MARK 10 is DOUBTFUL, too.
+        delay("!g;?g;0a1;1g0;1b2;0b3;", 1);
         delay("!g;?g;0g9;9a8;8a7;7a6;6a5;5a4;4a3;3a2;2a1;0a0;", 8);
         delay("!g;?g;0g9;9a8;8a7;7a6;6a5;5a4;4a3;3a2;2a1;1a9;0a0;", FaultTwins.NONE);
     }
@@ -401,6 +420,24 @@ public final class TermsTest {
                 DUE.is("of the long RING", x.pair(mark, place), 2);
             }
         }
+    }
+
+    /** Steps of the machine before, or of other EYES, are no steps of this one. */
+    private static void twinsOfAnotherMachine() {
+        FaultTwins x = Due.machine("!g;?gd;0g1;1a1;1d1;0d0;0a0;");
+        DUE.is("both by a: apart(0)", x.apart(0), 0);
+        DUE.is("d SEEN: enough(8)", x.enough(8), 0);
+        x.drop(4);
+        x.drop(2);
+        DUE.is("a of the first one alone: apart(0)", x.apart(0), 1);
+        DUE.is("a of the first one alone: pair(11, 0)", x.pair(11, 0), 1);
+        DUE.is("d SEEN: enough(8)", x.enough(8), 1);
+        x.way(1, 3, 1);
+        DUE.is("d of the first one: enough(8)", x.enough(8), 0);
+        DUE.is("d not SEEN: enough(0)", x.enough(0), 0);
+        x.drop(2);
+        DUE.is("d of the first one alone: enough(8)", x.enough(8), 1);
+        DUE.is("d of the first one alone: enough(0)", x.enough(0), 0);
     }
 
     private static void eyesAtTheEdges() {
