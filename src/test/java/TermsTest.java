@@ -26,6 +26,7 @@ public final class TermsTest {
         rings();
         delays();
         longDelayAndLongRing();
+        farMachines();
         twinsOfAnotherMachine();
         eyesAtTheEdges();
         fewestOfLikeOnes();
@@ -420,6 +421,36 @@ public final class TermsTest {
                 DUE.is("of the long RING", x.pair(mark, place), 2);
             }
         }
+    }
+
+    private static void far(String machine, int pairs, int doubtful, int rings, int delay) {
+        FaultTwins x = Due.machine(machine);
+        DUE.is(machine + " all(4)", x.all(4), pairs);
+        DUE.is(machine + " all(5)", x.all(5), doubtful);
+        DUE.is(machine + " apart(1)", x.apart(1), delay);
+        int found = 0;
+        for (int i = 100; i < 200; i++) {
+            found += x.pair(i / 10, i % 10) == 2 ? 1 : 0;
+        }
+        DUE.is(machine + " pairs of a RING", found, rings);
+    }
+
+    /**
+     * Machines whose pairs lie far behind one another: searched for, and what is due found by another
+     * program. The first needs 89 rounds through its WAYS until no pair is new.
+     */
+    private static void farMachines() {
+        far("!g;?g;3a1;4c4;0c2;5b4;3b5;3c3;6b3;6c6;0b6;8c0;2c8;7b2;1g2;7c2;7c7;1c1;9b7;9c9;7a4;4b9;1a5;",
+            151, 77, 75, FaultTwins.NONE);
+        far("!g;?g;2a0;7a9;2a4;2b3;2g4;4b4;3a7;4a3;2b0;6a4;2a8;2b9;2a3;0b0;8a6;1a8;0a1;5a0;2b7;9g5;8b8;9a5;",
+            90, 81, 81, FaultTwins.NONE);
+        far("!g;?g;2g4;9a0;5c1;2c4;8d3;6a1;3d6;3a3;5a2;8b0;0a7;4c7;7a8;8b2;1a5;2d7;4a9;7c3;0b1;9c0;8c6;9c8;9b7;7b6;",
+            131, 79, 0, 68);
+        String far = "!g;?g;0g1;3c5;8d6;0d2;6d5;9c2;2d1;0c0;5c8;8b3;3d3;5d9;7c3;1d7;4b9;4d4;7a4;6a0;7d8;9b0;0b6;0a5;0a2;";
+        far(far, 98, 84, 0, 65);
+        far(far + "9d0;", 196, 98, 98, FaultTwins.NONE);
+        far("!g;?g;0g3;6c5;5d7;5b5;3d2;9a3;3c3;2c1;8b4;5b7;4c2;0c9;1c8;0d0;5a8;1a7;7d1;4a9;2b0;9b9;7c4;6d1;8c6;9a2;",
+            155, 75, 0, 61);
     }
 
     /** Steps of the machine before, or of other EYES, are no steps of this one. */
